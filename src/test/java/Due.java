@@ -1,0 +1,24 @@
+/** Counts and prints the calls whose answer is not the one that is due. */
+final class Due {
+    private int checked = 0;
+    private int wrong = 0;
+
+    void is(String call, long got, long want) {
+        checked++;
+        if (got != want) {
+            wrong++;
+            System.out.println(call + " answered " + got + ", due is " + want);
+        }
+    }
+
+    void is(String call, boolean got, boolean want) {
+        is(call, got ? 1L : 0L, want ? 1L : 0L);
+    }
+
+    void end() {
+        System.out.println(checked + " answers looked at, " + wrong + " not as due");
+        if (wrong != 0) {
+            System.exit(1);
+        }
+    }
+}
