@@ -8,9 +8,6 @@ public final class PromisesTest {
     private static final int BAD = OrderedResolver.BAD;
     private static final int NONE = OrderedResolver.NONE;
     private static final int FULL = OrderedResolver.FULL;
-    private static final int LOWEST = Integer.MIN_VALUE;
-    private static final int HIGHEST = Integer.MAX_VALUE;
-    private static final int[] CLAUSE_COUNT = {0, 0, 9, 27, 81, 243};
 
     private static final Due due = new Due();
 
@@ -35,19 +32,6 @@ public final class PromisesTest {
         due.end();
     }
 
-    private static OrderedResolver with(int variables, int... base) {
-        OrderedResolver x = new OrderedResolver(variables);
-        for (int c : base) {
-            due.is("add(" + c + ")", x.add(c), 1);
-        }
-        return x;
-    }
-
-    private static int[] outside(int variables) {
-        int count = CLAUSE_COUNT[variables];
-        return new int[] {LOWEST, -243, -3, -2, -1, count, count + 1, 243, 244, HIGHEST};
-    }
-
     private static void constants() {
         due.is("BAD", BAD, -1);
         due.is("NONE", NONE, -2);
@@ -55,12 +39,12 @@ public final class PromisesTest {
     }
 
     private static void promise1NewObject() {
-        int[] wished = {LOWEST, -5, -1, 0, 1, 2, 3, 4, 5, 6, 7, 32, HIGHEST};
+        int[] wished = {Cases.LEAST, -5, -1, 0, 1, 2, 3, 4, 5, 6, 7, 32, Cases.GREATEST};
         int[] held = {2, 2, 2, 2, 2, 2, 3, 4, 5, 5, 5, 5, 5};
         for (int i = 0; i < wished.length; i++) {
             OrderedResolver x = new OrderedResolver(wished[i]);
             String name = "P1 new(" + wished[i] + ").";
-            int count = CLAUSE_COUNT[held[i]];
+            int count = Cases.clauses(held[i]);
             due.is(name + "size()", x.size(), 0);
             due.is(name + "models()", x.models(), 1 << held[i]);
             due.is(name + "primes()", x.primes(), 0);
@@ -75,7 +59,7 @@ public final class PromisesTest {
     }
 
     private static void promise1ObjectsAreApart() {
-        OrderedResolver first = with(3, 1, 2);
+        OrderedResolver first = due.made(3, 1, 2);
         OrderedResolver second = new OrderedResolver(3);
         due.is("P1 second.size()", second.size(), 0);
         due.is("P1 second.models()", second.models(), 8);
@@ -87,12 +71,12 @@ public final class PromisesTest {
     private static void promise2Add() {
         for (int n = 2; n <= 5; n++) {
             OrderedResolver x = new OrderedResolver(n);
-            for (int c : outside(n)) {
+            for (int c : Cases.outside(n)) {
                 due.is("P2 add(" + c + ") with " + n, x.add(c), BAD);
             }
             due.is("P2 size()", x.size(), 0);
             due.is("P2 models()", x.models(), 1 << n);
-            int last = CLAUSE_COUNT[n] - 1;
+            int last = Cases.clauses(n) - 1;
             due.is("P2 add(last)", x.add(last), 1);
             due.is("P2 add(last) again", x.add(last), 0);
             due.is("P2 models()", x.models(), (1 << n) - 1);
@@ -101,7 +85,7 @@ public final class PromisesTest {
             due.is("P2 size()", x.size(), 2);
             due.is("P2 models()", x.models(), 0);
         }
-        OrderedResolver implied = with(3, 1);
+        OrderedResolver implied = due.made(3, 1);
         due.is("P2 add of an implied clause", implied.add(4), 1);
         due.is("P2 size()", implied.size(), 2);
     }
@@ -109,7 +93,7 @@ public final class PromisesTest {
     private static void promise2AddToFullBase() {
         for (int n = 3; n <= 5; n++) {
             OrderedResolver x = new OrderedResolver(n);
-            int last = CLAUSE_COUNT[n] - 1;
+            int last = Cases.clauses(n) - 1;
             for (int i = 0; i < 12; i++) {
                 due.is("P2 add number " + i, x.add(last - i), 1);
                 due.is("P2 size()", x.size(), i + 1);
@@ -128,21 +112,21 @@ public final class PromisesTest {
             due.is("P2 room again: add(0)", x.add(0), 1);
             due.is("P2 full again: add(last - 5)", x.add(last - 5), FULL);
         }
-        OrderedResolver all = with(2, 0, 1, 2, 3, 4, 5, 6, 7, 8);
+        OrderedResolver all = due.made(2, 0, 1, 2, 3, 4, 5, 6, 7, 8);
         due.is("P2 every clause of two variables", all.size(), 9);
     }
 
     private static void promise3Retract() {
         for (int n = 2; n <= 5; n++) {
-            OrderedResolver x = with(n, 0, 4, CLAUSE_COUNT[n] - 1);
-            for (int c : outside(n)) {
+            OrderedResolver x = due.made(n, 0, 4, Cases.clauses(n) - 1);
+            for (int c : Cases.outside(n)) {
                 due.is("P3 retract(" + c + ") with " + n, x.retract(c), BAD);
             }
             due.is("P3 size()", x.size(), 3);
             due.is("P3 retract(5)", x.retract(5), 0);
             due.is("P3 retract(0)", x.retract(0), 1);
             due.is("P3 retract(0) again", x.retract(0), 0);
-            due.is("P3 retract(last)", x.retract(CLAUSE_COUNT[n] - 1), 1);
+            due.is("P3 retract(last)", x.retract(Cases.clauses(n) - 1), 1);
             due.is("P3 size()", x.size(), 1);
             due.is("P3 models()", x.models(), 3 << (n - 2));
             due.is("P3 add(4)", x.add(4), 0);
@@ -150,11 +134,11 @@ public final class PromisesTest {
             due.is("P3 size()", x.size(), 0);
             due.is("P3 models()", x.models(), 1 << n);
         }
-        OrderedResolver twice = with(2, 4);
+        OrderedResolver twice = due.made(2, 4);
         twice.add(4);
         due.is("P3 retract(4) after two adds", twice.retract(4), 1);
         due.is("P3 retract(4) once more", twice.retract(4), 0);
-        OrderedResolver implied = with(2, 1);
+        OrderedResolver implied = due.made(2, 1);
         due.is("P3 retract of a clause implied but not in the base", implied.retract(4), 0);
         due.is("P3 implied(4)", implied.implied(4), true);
     }
@@ -182,19 +166,19 @@ public final class PromisesTest {
             due.is("P5 empty: implied(" + c + ")", empty.implied(c), false);
         }
         // 0 or 1; not 0, or 1: together just variable 1.
-        OrderedResolver x = with(2, 4, 5);
+        OrderedResolver x = due.made(2, 4, 5);
         boolean[] want = {false, false, false, true, true, true, false, false, false};
         for (int c = 0; c < 9; c++) {
             due.is("P5 {4, 5}: implied(" + c + ")", x.implied(c), want[c]);
         }
-        for (int c : outside(2)) {
+        for (int c : Cases.outside(2)) {
             due.is("P5 {4, 5}: implied(" + c + ")", x.implied(c), false);
         }
         x.retract(5);
         due.is("P5 {4}: implied(3)", x.implied(3), false);
         due.is("P5 {4}: implied(4)", x.implied(4), true);
         // 0 leads to 1 leads to 2 leads to 3 leads to 4.
-        OrderedResolver chain = with(5, 5, 15, 45, 135);
+        OrderedResolver chain = due.made(5, 5, 15, 45, 135);
         due.is("P5 chain: 0 leads to 4", chain.implied(2 + 81), true);
         due.is("P5 chain: 4 leads to 0", chain.implied(1 + 162), false);
         chain.retract(15);
@@ -203,11 +187,11 @@ public final class PromisesTest {
 
     private static void promise5ImpliedByNoModel() {
         for (int n = 2; n <= 5; n++) {
-            OrderedResolver x = with(n, 1, 2);
-            for (int c = 0; c < CLAUSE_COUNT[n]; c++) {
+            OrderedResolver x = due.made(n, 1, 2);
+            for (int c = 0; c < Cases.clauses(n); c++) {
                 due.is("P5 no model: implied(" + c + ")", x.implied(c), true);
             }
-            for (int c : outside(n)) {
+            for (int c : Cases.outside(n)) {
                 due.is("P5 no model: implied(" + c + ")", x.implied(c), false);
             }
         }
@@ -219,7 +203,7 @@ public final class PromisesTest {
         for (int k = 0; k < want.length; k++) {
             due.is(name + "prime(" + k + ")", x.prime(k), want[k]);
         }
-        for (int k : new int[] {LOWEST, -3, -2, -1, want.length, want.length + 1, 243, HIGHEST}) {
+        for (int k : new int[] {Cases.LEAST, -3, -2, -1, want.length, want.length + 1, 243, Cases.GREATEST}) {
             due.is(name + "prime(" + k + ")", x.prime(k), NONE);
         }
     }
@@ -227,29 +211,29 @@ public final class PromisesTest {
     private static void promises6And7Primes() {
         for (int n = 2; n <= 5; n++) {
             primesAre("empty", new OrderedResolver(n));
-            primesAre("{0}", with(n, 0), 0);
-            primesAre("{1, 2}", with(n, 1, 2), 0);
-            primesAre("{last}", with(n, CLAUSE_COUNT[n] - 1), CLAUSE_COUNT[n] - 1);
-            primesAre("{4, 1}", with(n, 4, 1), 1);
-            primesAre("{4, 5}", with(n, 4, 5), 3);
-            primesAre("{6, 1}", with(n, 6, 1), 1, 6);
-            primesAre("{4, 5, 7}", with(n, 4, 5, 7), 1, 3);
-            primesAre("{4, 5, 7, 8}", with(n, 4, 5, 7, 8), 0);
+            primesAre("{0}", due.made(n, 0), 0);
+            primesAre("{1, 2}", due.made(n, 1, 2), 0);
+            primesAre("{last}", due.made(n, Cases.clauses(n) - 1), Cases.clauses(n) - 1);
+            primesAre("{4, 1}", due.made(n, 4, 1), 1);
+            primesAre("{4, 5}", due.made(n, 4, 5), 3);
+            primesAre("{6, 1}", due.made(n, 6, 1), 1, 6);
+            primesAre("{4, 5, 7}", due.made(n, 4, 5, 7), 1, 3);
+            primesAre("{4, 5, 7, 8}", due.made(n, 4, 5, 7, 8), 0);
         }
         // 0, 1 and 2 alike: each leads to each.
-        primesAre("ring", with(3, 19, 15, 5), 5, 7, 11, 15, 19, 21);
+        primesAre("ring", due.made(3, 19, 15, 5), 5, 7, 11, 15, 19, 21);
         // An odd number of 0, 1, 2 is true: nothing resolves.
-        primesAre("odd", with(3, 25, 13, 23, 17), 13, 17, 23, 25);
+        primesAre("odd", due.made(3, 25, 13, 23, 17), 13, 17, 23, 25);
         // 0 or 1; not 0, or 2: the resolvent is 1 or 2, prime beside both.
-        OrderedResolver resolvent = with(3, 4, 11);
+        OrderedResolver resolvent = due.made(3, 4, 11);
         primesAre("{4, 11}", resolvent, 4, 11, 12);
         resolvent.retract(4);
         primesAre("{11}", resolvent, 11);
-        primesAre("five units", with(5, 162, 27, 18, 3, 2), 2, 3, 18, 27, 162);
+        primesAre("five units", due.made(5, 162, 27, 18, 3, 2), 2, 3, 18, 27, 162);
     }
 
     private static void promise7OutsideTheCount() {
-        OrderedResolver x = with(2, 1, 3);
+        OrderedResolver x = due.made(2, 1, 3);
         due.is("P7 prime(1)", x.prime(1), 3);
         due.is("P7 prime(2)", x.prime(2), NONE);
         x.add(2);
@@ -259,10 +243,10 @@ public final class PromisesTest {
 
     private static void promise8PrimeWithin() {
         for (int n = 2; n <= 5; n++) {
-            int last = CLAUSE_COUNT[n] - 1;
+            int last = Cases.clauses(n) - 1;
             OrderedResolver empty = new OrderedResolver(n);
-            OrderedResolver none = with(n, 3, 6);
-            for (int c : outside(n)) {
+            OrderedResolver none = due.made(n, 3, 6);
+            for (int c : Cases.outside(n)) {
                 due.is("P8 empty: primeWithin(" + c + ")", empty.primeWithin(c), BAD);
                 due.is("P8 no model: primeWithin(" + c + ")", none.primeWithin(c), BAD);
             }
@@ -272,34 +256,34 @@ public final class PromisesTest {
             }
         }
         // The primes are 5, 7, 11, 15, 19, 21.
-        OrderedResolver ring = with(3, 5, 15, 19);
+        OrderedResolver ring = due.made(3, 5, 15, 19);
         int[] asked = {0, 2, 5, 8, 11, 13, 14, 16, 17, 19, 21, 22, 23, 25, 26};
         int[] want = {NONE, NONE, 5, NONE, 11, NONE, 5, 7, 11, 19, 21, 19, 5, 7, NONE};
         for (int i = 0; i < asked.length; i++) {
             due.is("P8 ring: primeWithin(" + asked[i] + ")", ring.primeWithin(asked[i]), want[i]);
         }
         // 4 is in the base and implied, but 1 alone is prime.
-        OrderedResolver unit = with(2, 4, 1);
+        OrderedResolver unit = due.made(2, 4, 1);
         due.is("P8 {4, 1}: primeWithin(4)", unit.primeWithin(4), 1);
         due.is("P8 {4, 1}: primeWithin(3)", unit.primeWithin(3), NONE);
         due.is("P8 {4, 1}: primeWithin(5)", unit.primeWithin(5), NONE);
         // The smallest number counts, not the fewest variables.
-        OrderedResolver mixed = with(3, 4, 9);
+        OrderedResolver mixed = due.made(3, 4, 9);
         due.is("P8 {4, 9}: primeWithin(13)", mixed.primeWithin(13), 4);
     }
 
     private static void promise9Models() {
         for (int n = 2; n <= 5; n++) {
             due.is("P9 empty", new OrderedResolver(n).models(), 1 << n);
-            due.is("P9 {0}", with(n, 0).models(), 0);
-            due.is("P9 {1}", with(n, 1).models(), 1 << (n - 1));
-            due.is("P9 {4}", with(n, 4).models(), 3 << (n - 2));
-            due.is("P9 {1, 3}", with(n, 1, 3).models(), 1 << (n - 2));
-            due.is("P9 {last}", with(n, CLAUSE_COUNT[n] - 1).models(), (1 << n) - 1);
-            due.is("P9 {4, 5, 7, 8}", with(n, 4, 5, 7, 8).models(), 0);
+            due.is("P9 {0}", due.made(n, 0).models(), 0);
+            due.is("P9 {1}", due.made(n, 1).models(), 1 << (n - 1));
+            due.is("P9 {4}", due.made(n, 4).models(), 3 << (n - 2));
+            due.is("P9 {1, 3}", due.made(n, 1, 3).models(), 1 << (n - 2));
+            due.is("P9 {last}", due.made(n, Cases.clauses(n) - 1).models(), (1 << n) - 1);
+            due.is("P9 {4, 5, 7, 8}", due.made(n, 4, 5, 7, 8).models(), 0);
         }
-        due.is("P9 all true", with(5, 1, 3, 9, 27, 81).models(), 1);
-        OrderedResolver x = with(3, 5, 15, 19);
+        due.is("P9 all true", due.made(5, 1, 3, 9, 27, 81).models(), 1);
+        OrderedResolver x = due.made(3, 5, 15, 19);
         due.is("P9 ring", x.models(), 2);
         x.retract(15);
         due.is("P9 {5, 19}", x.models(), 4);
@@ -308,7 +292,7 @@ public final class PromisesTest {
     private static void promise10LeastModel() {
         for (int n = 2; n <= 5; n++) {
             OrderedResolver empty = new OrderedResolver(n);
-            OrderedResolver none = with(n, 1, 2);
+            OrderedResolver none = due.made(n, 1, 2);
             due.is("P10 empty: leastModel(0, 3)", empty.leastModel(0, 3), 0);
             due.is("P10 empty: leastModel(2, 3)", empty.leastModel(2, 3), 2);
             due.is("P10 empty: leastModel(3, 1)", empty.leastModel(3, 1), 1);
@@ -316,7 +300,7 @@ public final class PromisesTest {
             due.is("P10 no model: leastModel(3, 1)", none.leastModel(3, 1), NONE);
         }
         // 0 or 1; not 2, or 0.
-        OrderedResolver x = with(3, 4, 19);
+        OrderedResolver x = due.made(3, 4, 19);
         due.is("P10 leastModel(0, 0)", x.leastModel(0, 0), 1);
         due.is("P10 leastModel(0, 7)", x.leastModel(0, 7), 1);
         due.is("P10 leastModel(1, 0)", x.leastModel(1, 0), 2);
@@ -326,7 +310,7 @@ public final class PromisesTest {
         due.is("P10 leastModel(5, 4)", x.leastModel(5, 4), NONE);
         due.is("P10 leastModel(3, 0)", x.leastModel(3, 0), NONE);
         due.is("P10 leastModel(7, 3)", x.leastModel(7, 3), 3);
-        OrderedResolver last = with(5, 1, 3, 9, 27, 81);
+        OrderedResolver last = due.made(5, 1, 3, 9, 27, 81);
         due.is("P10 all true: leastModel(0, 0)", last.leastModel(0, 0), 31);
         due.is("P10 all true: leastModel(31, 31)", last.leastModel(31, 31), 31);
         due.is("P10 all true: leastModel(16, 15)", last.leastModel(16, 15), NONE);
@@ -334,37 +318,37 @@ public final class PromisesTest {
 
     private static void promise10BitsThatPlayNoPart() {
         for (int n = 2; n <= 5; n++) {
-            OrderedResolver x = with(n, 4);
+            OrderedResolver x = due.made(n, 4);
             int above = -1 << n;
             due.is("P10 fixed above", x.leastModel(above, above), 1);
             due.is("P10 fixed above, no values", x.leastModel(above, 0), 1);
             due.is("P10 bit n fixed", x.leastModel(1 << n, 1 << n), 1);
-            due.is("P10 sign bit fixed", x.leastModel(LOWEST, LOWEST), 1);
+            due.is("P10 sign bit fixed", x.leastModel(Cases.LEAST, Cases.LEAST), 1);
             due.is("P10 values above", x.leastModel(1, above), 2);
             due.is("P10 all fixed, values 1", x.leastModel(-1, above | 1), 1);
             due.is("P10 all fixed, values 0", x.leastModel(-1, above), NONE);
             due.is("P10 all fixed, all values", x.leastModel(-1, -1), (1 << n) - 1);
-            due.is("P10 highest fixed", x.leastModel(HIGHEST, 2), 2);
+            due.is("P10 highest fixed", x.leastModel(Cases.GREATEST, 2), 2);
         }
     }
 
     private static void promise11Redundant() {
         for (int n = 2; n <= 5; n++) {
             due.is("P11 empty", new OrderedResolver(n).redundant(), 0);
-            due.is("P11 {0}", with(n, 0).redundant(), 0);
-            due.is("P11 {4}", with(n, 4).redundant(), 0);
-            due.is("P11 {1, 4}", with(n, 1, 4).redundant(), 1);
-            due.is("P11 {0, 1}", with(n, 0, 1).redundant(), 1);
-            due.is("P11 {1, 2}", with(n, 1, 2).redundant(), 0);
-            due.is("P11 {0, 1, 2}", with(n, 0, 1, 2).redundant(), 3);
-            due.is("P11 {4, 5}", with(n, 4, 5).redundant(), 0);
-            due.is("P11 {3, 4, 5}", with(n, 3, 4, 5).redundant(), 3);
-            due.is("P11 {3, 5, 7}", with(n, 3, 5, 7).redundant(), 1);
-            due.is("P11 {4, 5, 7, 8}", with(n, 4, 5, 7, 8).redundant(), 0);
+            due.is("P11 {0}", due.made(n, 0).redundant(), 0);
+            due.is("P11 {4}", due.made(n, 4).redundant(), 0);
+            due.is("P11 {1, 4}", due.made(n, 1, 4).redundant(), 1);
+            due.is("P11 {0, 1}", due.made(n, 0, 1).redundant(), 1);
+            due.is("P11 {1, 2}", due.made(n, 1, 2).redundant(), 0);
+            due.is("P11 {0, 1, 2}", due.made(n, 0, 1, 2).redundant(), 3);
+            due.is("P11 {4, 5}", due.made(n, 4, 5).redundant(), 0);
+            due.is("P11 {3, 4, 5}", due.made(n, 3, 4, 5).redundant(), 3);
+            due.is("P11 {3, 5, 7}", due.made(n, 3, 5, 7).redundant(), 1);
+            due.is("P11 {4, 5, 7, 8}", due.made(n, 4, 5, 7, 8).redundant(), 0);
         }
         // Each of the six follows from the other five, though not all can go.
-        due.is("P11 six of the ring", with(3, 5, 7, 11, 15, 19, 21).redundant(), 6);
-        OrderedResolver ring = with(3, 5, 15, 19);
+        due.is("P11 six of the ring", due.made(3, 5, 7, 11, 15, 19, 21).redundant(), 6);
+        OrderedResolver ring = due.made(3, 5, 15, 19);
         due.is("P11 ring", ring.redundant(), 0);
         ring.add(23);
         due.is("P11 ring and 23", ring.redundant(), 1);
@@ -373,7 +357,7 @@ public final class PromisesTest {
     }
 
     private static void questionsChangeNothing() {
-        OrderedResolver x = with(3, 5, 15, 19, 23);
+        OrderedResolver x = due.made(3, 5, 15, 19, 23);
         for (int round = 0; round < 2; round++) {
             String name = "round " + round + ": ";
             due.is(name + "size()", x.size(), 4);
