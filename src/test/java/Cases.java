@@ -7,6 +7,9 @@ final class Cases {
     static final int GREATEST = Integer.MAX_VALUE;
     static final int CAPACITY = 12;
 
+    /** An object is used for at most so many calls after it has been made. */
+    static final int CALLS = 512;
+
     private static final int[] POWER_OF_3 = {1, 3, 9, 27, 81, 243};
 
     // Each has all five variables, and each two differ in two of them or more,

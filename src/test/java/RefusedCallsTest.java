@@ -11,8 +11,7 @@ public final class RefusedCallsTest {
     private static final int BAD = OrderedResolver.BAD;
     private static final int NONE = OrderedResolver.NONE;
     private static final int FULL = OrderedResolver.FULL;
-    private static final int CALLS_OF_AN_OBJECT = 512;
-    private static final int MOST_LATER_CALLS = CALLS_OF_AN_OBJECT - Cases.CAPACITY - 1;
+    private static final int MOST_LATER_CALLS = Cases.CALLS - Cases.CAPACITY - 1;
 
     private static final Due due = new Due();
 
