@@ -37,28 +37,20 @@ public final class DefinitionsTest {
     // than one is promised for.
     private static void everyQuestion(int n, int[] base) {
         int last = Cases.clauses(n) - 1;
-        made(n, base).counts();
-        SideBySide implied = made(n, base);
-        SideBySide prime = made(n, base);
-        SideBySide primeWithin = made(n, base);
+        SideBySide.based(due, n, base).counts();
+        SideBySide implied = SideBySide.based(due, n, base);
+        SideBySide prime = SideBySide.based(due, n, base);
+        SideBySide primeWithin = SideBySide.based(due, n, base);
         for (int i = -1; i <= last + 1; i++) {
             implied.implied(i);
             prime.prime(i);
             primeWithin.primeWithin(i);
         }
         for (int fixed = 0; fixed < 2 << n; fixed++) {
-            SideBySide leastModel = made(n, base);
+            SideBySide leastModel = SideBySide.based(due, n, base);
             for (int values = 0; values < 2 << n; values++) {
                 leastModel.leastModel(fixed, values);
             }
         }
-    }
-
-    private static SideBySide made(int n, int[] base) {
-        SideBySide both = new SideBySide(due, "fresh", n, n);
-        for (int c : base) {
-            both.add(c);
-        }
-        return both;
     }
 }

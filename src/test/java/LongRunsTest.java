@@ -41,8 +41,8 @@ public final class LongRunsTest {
             LongRunsTest::filledAndEmptied);
         for (Kind kind : Kind.values()) {
             due.test(kind.promise + " (in each of the 512 places)", () -> inEachPlace(kind));
+            due.test(kind.promise + " (its edges in each place)", () -> edgesInEachPlace(kind));
             due.test(kind.promise + " (hundreds of calls of it alone)", () -> alone(kind));
-            due.test(kind.promise + " (as the 512th call)", () -> asLastCall(kind));
         }
         due.end();
     }
@@ -56,7 +56,7 @@ public final class LongRunsTest {
             int last = Cases.clauses(n) - 1;
             SideBySide both = new SideBySide(due, "in long use", wished, n);
             useUntilLeft(both, Cases.CAPACITY + COUNTS + 9, new Arguments(n, 1));
-            emptyTo(both);
+            takeAllOut(both);
             both.counts();
             both.leastModel(-1, -1);
             both.add(last + 1);
@@ -115,7 +115,7 @@ public final class LongRunsTest {
                 both.counts();
                 both.add((round * 5 + most * 7) % clauses);
                 both.add(round * 5 % clauses);
-                emptyTo(both);
+                takeAllOut(both);
                 both.counts();
             }
         }
@@ -123,22 +123,25 @@ public final class LongRunsTest {
 
     // Promises 2 to 11
 
-    /** In one run the kind has the odd places, in the next the even ones. */
     private static void inEachPlace(Kind kind) {
         for (int n = 2; n <= 5; n++) {
             for (int memberShare = 1; memberShare <= MEMBER_SHARES; memberShare++) {
-                for (int parity = 0; parity < 2; parity++) {
-                    Arguments arguments = new Arguments(n, 10 * memberShare + parity);
-                    arguments.memberShare = memberShare;
-                    SideBySide both = new SideBySide(due, "by turns", n, n);
-                    while (both.callsLeft() > 0) {
-                        if (both.callsLeft() % 2 == parity) {
-                            call(both, kind, arguments);
-                        } else {
-                            someCall(both, arguments);
-                        }
-                    }
-                }
+                byTurns(kind, 0, n, memberShare);
+                byTurns(kind, 1, n, memberShare);
+            }
+        }
+    }
+
+    /** The kind has either the odd places or the even ones; what comes between is mixed. */
+    private static void byTurns(Kind kind, int parity, int n, int memberShare) {
+        Arguments arguments = new Arguments(n, 10 * memberShare + parity);
+        arguments.memberShare = memberShare;
+        SideBySide both = new SideBySide(due, "by turns", n, n);
+        while (both.callsLeft() > 0) {
+            if (both.callsLeft() % 2 == parity) {
+                call(both, kind, arguments);
+            } else {
+                someCall(both, arguments);
             }
         }
     }
@@ -146,11 +149,8 @@ public final class LongRunsTest {
     private static void alone(Kind kind) {
         for (int n = 2; n <= 5; n++) {
             for (int[] base : Cases.bases(n)) {
-                SideBySide both = new SideBySide(due, "one kind alone", n, n);
+                SideBySide both = SideBySide.based(due, n, base);
                 Arguments arguments = new Arguments(n, 2);
-                for (int c : base) {
-                    both.add(c);
-                }
                 while (both.callsLeft() > COUNTS) {
                     call(both, kind, arguments);
                 }
@@ -159,36 +159,50 @@ public final class LongRunsTest {
         }
     }
 
-    private static void asLastCall(Kind kind) {
+    private static void edgesInEachPlace(Kind kind) {
         for (int n = 2; n <= 5; n++) {
             for (int[] base : Cases.bases(n)) {
-                Definitions definitions = new Definitions(n);
-                for (int c : base) {
-                    definitions.add(c);
-                }
-                for (Consumer<SideBySide> last : lastCalls(kind, n, definitions)) {
-                    SideBySide both = new SideBySide(due, "to the end", n, n);
-                    useForAllButOne(both, base, new Arguments(n, 3));
-                    last.accept(both);
+                Definitions definitions = SideBySide.based(due, n, base).definitions();
+                everyOtherCall(edgeCalls(kind, n, definitions), n, base);
+            }
+        }
+    }
+
+    /**
+     * Every other call is an edge, and the one behind it brings the base back. Each
+     * run starts one step later in that order than the one before it, so in the end
+     * each edge has been in each place that comes after the first adds.
+     */
+    private static void everyOtherCall(List<Consumer<SideBySide>> edges, int n, int[] base) {
+        for (int first = 0; first < 2 * edges.size(); first++) {
+            SideBySide both = SideBySide.based(due, n, base);
+            for (int step = first; both.callsLeft() > 0; step++) {
+                if (step % 2 == 0) {
+                    edges.get(step / 2 % edges.size()).accept(both);
+                } else {
+                    bringBack(both, base);
                 }
             }
         }
     }
 
-    private static void useForAllButOne(SideBySide both, int[] base, Arguments arguments) {
-        while (both.callsLeft() > 2 * Cases.CAPACITY + 1) {
-            call(both, arguments.below(2) == 0 ? Kind.ADD : Kind.RETRACT, arguments);
-        }
-        emptyTo(both, base);
+    /** Undoes the one call that may have changed the base. */
+    private static void bringBack(SideBySide both, int[] base) {
+        TreeSet<Integer> now = both.definitions().base();
         for (int c : base) {
-            both.add(c);
+            if (!now.remove(c)) {
+                both.add(c);
+                return;
+            }
         }
-        while (both.callsLeft() > 1) {
+        if (now.isEmpty()) {
             both.size();
+        } else {
+            both.retract(now.first());
         }
     }
 
-    private static List<Consumer<SideBySide>> lastCalls(Kind kind, int n, Definitions definitions) {
+    private static List<Consumer<SideBySide>> edgeCalls(Kind kind, int n, Definitions definitions) {
         List<Consumer<SideBySide>> calls = new ArrayList<>();
         switch (kind) {
             case ADD -> edges(n, definitions).forEach(c -> calls.add(b -> b.add(c)));
@@ -245,12 +259,9 @@ public final class LongRunsTest {
         }
     }
 
-    /** Takes out all clauses but those to be kept. */
-    private static void emptyTo(SideBySide both, int... kept) {
+    private static void takeAllOut(SideBySide both) {
         for (int c : both.definitions().base().descendingSet()) {
-            if (!Cases.isIn(kept, c)) {
-                both.retract(c);
-            }
+            both.retract(c);
         }
     }
 

@@ -1,3 +1,5 @@
+import java.util.Arrays;
+
 /**
  * An object and the definitions of the document side by side: each call is made
  * on both, and the two answers are compared.
@@ -15,6 +17,15 @@ final class SideBySide {
         this.x = new OrderedResolver(wished);
         this.definitions = new Definitions(n);
         this.name = "new(" + wished + "), " + name;
+    }
+
+    /** A new object of n variables with these clauses in its base. */
+    static SideBySide based(Due due, int n, int... base) {
+        SideBySide both = new SideBySide(due, "base at first " + Arrays.toString(base), n, n);
+        for (int c : base) {
+            both.add(c);
+        }
+        return both;
     }
 
     int callsLeft() {
